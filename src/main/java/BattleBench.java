@@ -800,9 +800,6 @@ public final class BattleBench {
         void seatAll(int men, int[] lifeOfEach) {
             seated = 0;
             year = 0;
-            for (int man = 0; man < MEN; man++) {
-                lives[man] = 0;
-            }
             for (int man = 0; man < men; man++) {
                 seatLast(man, lifeOfEach[man]);
             }

@@ -243,6 +243,19 @@ final class DoneTest {
         x.move(0);
         x.restore();
         CHECKS.due("is the one that is kept", Checks.seats(x), 9102);
+        x = Checks.bench("p1");
+        for (int n = 1; n <= 9; n++) {
+            x.nurse(0, 1);
+        }
+        x.image();
+        for (int n = 1; n <= 9; n++) {
+            x.nurse(0, 5);
+        }
+        x.restore();
+        for (int n = 8; n >= 1; n--) {
+            x.undo();
+            CHECKS.due("all that was known then " + n, x.of(0, 1), n + 1);
+        }
         x = new BattleBench();
         CHECKS.due("an empty one", x.image(), 1);
         x.man(0, 1);

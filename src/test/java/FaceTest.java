@@ -39,12 +39,14 @@ final class FaceTest {
                 checks.due(method.getName() + " is private", Modifier.isPrivate(method.getModifiers()) ? 1 : 0, 1);
             }
         }
-        checks.due("the methods of the document", new HashSet<>(open).equals(new HashSet<>(Arrays.asList(METHODS))) ? 1 : 0, 1);
+        Set<String> told = new HashSet<>(Arrays.asList(METHODS));
+        checks.due("the methods of the document", new HashSet<>(open).equals(told) ? 1 : 0, 1);
         checks.due("each once", open.size(), METHODS.length);
         for (String name : hidden) {
             checks.due("no private method is named " + name, openNames.contains(name) ? 1 : 0, 0);
         }
-        checks.due("item takes a long", face.getMethod("item", int.class, int.class, int.class, long.class) == null ? 0 : 1, 1);
+        Method item = face.getMethod("item", int.class, int.class, int.class, long.class);
+        checks.due("item takes a long", item.getParameterCount(), 4);
 
         Constructor<?>[] constructors = face.getDeclaredConstructors();
         checks.due("one constructor", constructors.length, 1);

@@ -31,6 +31,8 @@ final class ForetoldTest {
             CHECKS.due("then " + n, x.then(n), who[n]);
         }
         CHECKS.due("the last", x.then(60), 0);
+        CHECKS.due("then by itself", x.then(2), 7);
+        CHECKS.due("and again", x.then(3), 2);
         x = Checks.bench("h60");
         CHECKS.due("hale at last", x.ahead(0, 58), 2);
         CHECKS.due("hale ends", x.ends(0), 59);
@@ -65,6 +67,11 @@ final class ForetoldTest {
         CHECKS.due("one", Checks.bench("p9").lonely(), 0);
         CHECKS.due("nobody", new BattleBench().lonely(), 0);
         CHECKS.due("two who die at once", Checks.bench("p4,p4").lonely(), 2);
+        x = Checks.bench("h60,h60");
+        x.years(1);
+        x.nurse(0, 60);
+        x.nurse(1, 60);
+        CHECKS.due("the last that can be", x.lonely(), 60);
     }
 
     private static void orders() {

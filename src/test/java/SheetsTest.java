@@ -49,8 +49,10 @@ final class SheetsTest {
         holds("30", x, 0, 2, 1, 30);
         x.sheet(0, 2, 2);
         holds("a new row has zeros", x, 0, 2, 1, 0);
+        x.item(0, 2, 0, 30);
         x.item(0, 2, 1, 30);
         x.sheet(0, 0, 1);
+        holds("zero in front", x, 0, 0, 0, 0);
         CHECKS.due("a shorter one", x.item(0, 0, 1, 1), -13);
         x.sheet(0, 2, 2);
         holds("zeros again", x, 0, 2, 1, 0);
@@ -239,6 +241,7 @@ final class SheetsTest {
         CHECKS.due("is 5", x.failed(1, 0, 0, 1, 2, 2), 5);
         row(x, 56);
         CHECKS.due("60 at most", x.failed(1, 0, 0, 1, 1, 2), 60);
+        CHECKS.due("that one", x.failed(1, 0, 0, 1, 1, 1), 1);
         row(x, 57);
         CHECKS.due("no more", x.failed(1, 0, 0, 1, 1, 2), -4);
         CHECKS.due("none such", x.failed(1, 0, 0, 1, 1, 1), 0);
