@@ -130,18 +130,7 @@ public final class BattleBench {
     // ---- what is done
 
     public int years(int n) {
-        if (!within(n, 1, MOST_YEARS)) {
-            return BAD;
-        }
-        Bench bench = state.bench;
-        if (bench.year + n > LAST_YEAR) {
-            return FULL;
-        }
-        for (int y = 0; y < n; y++) {
-            state.log.keep(bench);
-            bench.passYear(state.roll);
-        }
-        return bench.whoSits();
+        return goOn(n, false);
     }
 
     public int move(int k) {
@@ -168,19 +157,7 @@ public final class BattleBench {
     }
 
     public int drift(int n) {
-        if (!within(n, 1, MOST_YEARS)) {
-            return BAD;
-        }
-        Bench bench = state.bench;
-        if (bench.year + n > LAST_YEAR) {
-            return FULL;
-        }
-        for (int y = 0; y < n; y++) {
-            state.log.keep(bench);
-            bench.moveByDraw();
-            bench.passYear(state.roll);
-        }
-        return bench.whoSits();
+        return goOn(n, true);
     }
 
     public int undo() {
@@ -198,6 +175,25 @@ public final class BattleBench {
         int before = state.bench.draw;
         state.bench.draw = v;
         return before;
+    }
+
+    /** Years one by one, each of a drift with its move; who is on the bench then. */
+    private int goOn(int n, boolean isDrift) {
+        if (!within(n, 1, MOST_YEARS)) {
+            return BAD;
+        }
+        Bench bench = state.bench;
+        if (bench.year + n > LAST_YEAR) {
+            return FULL;
+        }
+        for (int y = 0; y < n; y++) {
+            state.log.keep(bench);
+            if (isDrift) {
+                bench.moveByDraw();
+            }
+            bench.passYear(state.roll);
+        }
+        return bench.whoSits();
     }
 
     // ---- 2 foretold
