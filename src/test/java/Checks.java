@@ -5,12 +5,23 @@ import java.util.List;
 final class Checks {
     private final List<String> wrong = new ArrayList<>();
     private int made = 0;
+    private String sentence = "";
+
+    /** The words of the document that the checks behind it are about. */
+    void sentence(String words) {
+        sentence = "\"" + words + "\": ";
+    }
 
     void due(String call, long got, long want) {
         made++;
         if (got != want) {
-            wrong.add(call + " answered " + got + ", due is " + want);
+            wrong.add(sentence + call + " answered " + got + ", due is " + want);
         }
+    }
+
+    /** Numbers that lie outside of a bound: the nearest ones and the farthest. */
+    static int[] outside(int least, int most) {
+        return new int[] {least - 1, most + 1, Integer.MIN_VALUE, Integer.MAX_VALUE};
     }
 
     /** A new object whose bench is told by a text. */
@@ -39,6 +50,15 @@ final class Checks {
         int row = 9;
         for (int k = 0; x.seat(k) >= 0; k++) {
             row = 10 * row + x.seat(k);
+        }
+        return row;
+    }
+
+    /** LIFE of all men as a number with two digits for each; 9 stands in front. */
+    static long lives(BattleBench x) {
+        long row = 9;
+        for (int man = 0; man < x.count(0); man++) {
+            row = 100 * row + x.of(man, 1);
         }
         return row;
     }
