@@ -6,7 +6,7 @@ public final class BattleBench {
     private static final int PLAIN = 0, HALE = 1, HURT = 2, DRUMMER = 3, RUNNER = 4, KINDS = 5;
     private static final int NOBODY = -1;
     private static final int LAST_YEAR = 9999, MOST_YEARS = 40, MOST_FORETOLD = 60, MOST_LEFT = 30;
-    private static final int KNOWN = 8;
+    private static final int KNOWN = 8, LOWEST_31_BITS = 0x7fffffff;
     private static final int TAPE = 70, FAULT = -20, NO_FAULT = 0;
     private static final int SHEETS = 4, LANES = 4, ITEMS = 24, MOST_TOLD = 8;
     private static final int TENTHS = 10;
@@ -746,7 +746,7 @@ public final class BattleBench {
                 case HURT: return lossOfHurt();
                 case DRUMMER: return lossOfHale(year) + (before == NOBODY || after == NOBODY ? 1 : 0);
                 case RUNNER: return Math.max(0, lossOfHurt() - comrades(man, before) - comrades(man, after));
-                default: return lossOfPlain();
+                case PLAIN: default: return lossOfPlain();
             }
         }
 
@@ -870,7 +870,7 @@ public final class BattleBench {
         }
 
         void moveByDraw() {
-            draw = (draw * 1103515245 + 12345) & Integer.MAX_VALUE;
+            draw = (draw * 1103515245 + 12345) & LOWEST_31_BITS;
             if (seated >= 2) {
                 swapAt(draw / 65536 % (seated - 1));
             }

@@ -535,9 +535,27 @@ final class PromisesTest {
         x.restore();
         CHECKS.due("the later image", x.of(0, 1), 10);
         CHECKS.due("with what could be undone then", x.undo(), 0);
+        wholePastIsKept();
         Checks.read(x, "u3");
         CHECKS.due("a bench told leaves it", x.restore(), 1);
         CHECKS.due("and it is whole", x.of(0, 1), 10);
+    }
+
+    private static void wholePastIsKept() {
+        BattleBench x = Checks.bench("p1");
+        for (int n = 0; n < 9; n++) {
+            x.nurse(0, 1);
+        }
+        x.image();
+        for (int n = 0; n < 9; n++) {
+            x.nurse(0, 5);
+        }
+        x.restore();
+        for (int life = 9; life >= 2; life--) {
+            CHECKS.due("undone as then", x.undo(), life - 2);
+            CHECKS.due("life as ahead of it", x.of(0, 1), life);
+        }
+        CHECKS.due("no more", x.undo(), NONE);
     }
 
     private static void p28Failed() {
@@ -592,6 +610,10 @@ final class PromisesTest {
         CHECKS.due("1, at the end", x.film(0, 1, 3, 1, 23), 1);
         CHECKS.due("the last then", x.failed(0, 3, 1, 23, 1, 2), 60);
         CHECKS.due("the one ahead of it stays", x.failed(0, 3, 1, 22, 1, 2), 16);
+        CHECKS.due("2, in the middle", x.film(0, 2, 3, 1, 10), 2);
+        CHECKS.due("the one ahead of them stays", x.failed(0, 3, 1, 9, 1, 2), 42);
+        CHECKS.due("their second", x.failed(0, 3, 1, 11, 1, 2), 58);
+        CHECKS.due("the one behind them stays", x.failed(0, 3, 1, 12, 1, 2), 36);
 
         CHECKS.sentence("film: BAD; NULL; CAST; INDEX.");
         for (int man : Checks.outside(0, 1)) {
@@ -630,10 +652,12 @@ final class PromisesTest {
         for (int v = 0; v <= 3; v++) {
             CHECKS.due("0 items", x.sheet(v, v, 0), 0);
             CHECKS.due("24 items", x.sheet(v, v, 24), 24);
+            CHECKS.due("the first", x.item(v, v, 0, 7), 1);
             CHECKS.due("the last", x.item(v, v, 23, 7), 1);
             CHECKS.due("of its lane", x.item(v, (v + 1) % 4, 23, 7), CAST);
             CHECKS.due("a new row", x.sheet(v, v, 24), 24);
-            CHECKS.due("is of zeros", x.failed(0, v, v, 23, 1, 2), 1);
+            CHECKS.due("begins with a zero", x.failed(0, v, v, 0, 1, 2), 1);
+            CHECKS.due("and ends with one", x.failed(0, v, v, 23, 1, 2), 1);
         }
         x.item(0, 0, 5, 7);
         CHECKS.due("-1 again", x.sheet(0, 1, -1), SIZE);

@@ -10,7 +10,8 @@ final class RulesTest {
     private static final String[] RULED_OUT = {
         "\\bpackage\\b", "\\bimport\\b", "->", "::", "\\btry\\b", "\\bcatch\\b", "\\bfinally\\b", "\\bthrows?\\b",
         "\\bassert\\b", "\\bsynchronized\\b", "\\bvolatile\\b", "\\bnative\\b", "\\bstatic\\s*\\{", "Exact\\b",
-        "\\bSystem\\.(?!arraycopy\\b)", "\\bThread\\b", "\\bRandom\\b", "\\bhashCode\\b", "\\btoString\\b",
+        "\\bSystem\\.(?!arraycopy\\b)", "\\b(Integer|Long)\\.[A-Z]", "\\bThread\\b",
+        "\\bRandom\\b", "\\bhashCode\\b", "\\btoString\\b",
         "\\bprotected\\b", "\\bdouble\\b", "\\bfloat\\b", "\\binstanceof\\b", "\\bvar\\b",
     };
 

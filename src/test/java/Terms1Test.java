@@ -13,6 +13,7 @@ final class Terms1Test {
         whoHasNoLife();
         theFirstYear();
         whoStoodBy();
+        whoStoodByAnew();
         whoSitsBy();
         plainFails();
         haleFails();
@@ -165,6 +166,23 @@ final class Terms1Test {
         CHECKS.due("dead or not", x.of(0, 6), 4);
         CHECKS.due("the dead stood by the living", x.of(3, 6), 6);
         CHECKS.due("nobody by one alone, not himself", Checks.bench("p9").of(0, 6), 0);
+    }
+
+    private static void whoStoodByAnew() {
+        CHECKS.sentence("none of all MEN (dead or not) stood between them");
+        BattleBench x = Checks.bench("p9.000,p9.999");
+        x.man(0, 9);
+        CHECKS.due("a new man stands between", x.of(0, 6), 4);
+        CHECKS.due("by both of them", x.of(2, 6), 3);
+        x = Checks.bench("p9.000,p9.111,p9.222");
+        x.stood(1, 0, 3);
+        CHECKS.due("nobody between at one hour", x.of(0, 6), 6);
+        x.stood(1, 0, 1);
+        CHECKS.due("he is between again", x.of(0, 6), 2);
+        CHECKS.due("man 0 stands between", Checks.bench("p9.555,p9.000,p9.999").of(1, 6), 1);
+        CHECKS.due("man 1 stands between", Checks.bench("p9.000,p9.555,p9.999").of(2, 6), 2);
+        CHECKS.due("man 2 stands between", Checks.bench("p9.000,p9.999,p9.555").of(0, 6), 4);
+        CHECKS.due("the last of six stands between", Checks.bench("p9,p9,p9,p9,p9.999,p9.888").of(3, 6), 4 | 32);
     }
 
     private static void whoSitsBy() {

@@ -274,6 +274,12 @@ final class Terms2Test {
         CHECKS.due("life behind 29", x.left(29, -2), 2 + 30);
         CHECKS.due("30", x.left(30, -1), 1);
         CHECKS.due("life behind 30", x.left(30, -2), 30);
+        // The runner stood by all others; man 0 is by him for one year alone.
+        x = Checks.bench("p2,r60,p60.922,p60");
+        leftRow("behind one year", x, 1, 90123);
+        leftRow("behind three", x, 3, 90213);
+        CHECKS.due("life behind one", x.left(1, -2), 58 + 58 + 58);
+        CHECKS.due("life behind three", x.left(3, -2), 54 + 54 + 54);
     }
 
     private static void leftMost() {
@@ -296,6 +302,9 @@ final class Terms2Test {
         leftRow("the first by which he is", x, 1, 90123);
         x = Checks.bench("d60,p60,p60,p60");
         leftRow("not at an end", x, 1, 91023);
+        leftRow("the last to come between the others", Checks.bench("p60,p60,d60"), 1, 9021);
+        leftRow("he who came in the middle", Checks.bench("p60,d60,p60"), 1, 9012);
+        leftRow("the last of six", Checks.bench("p60,p60,p60,p60,p60,d60"), 1, 9012354);
         x = Checks.bench("d60,d60,p60");
         CHECKS.due("one of them is at an end", x.left(2, -2), 57 + 58 - 1 + 56);
         leftRow("the first of like ones", x, 2, 9012);

@@ -53,6 +53,11 @@ final class Terms3Test {
         CHECKS.due("the eighth is not", x.failed(0, 0, 0, 0, 8, 1), 0);
         row(x, 57, 56, 54);
         CHECKS.due("the first is not", x.failed(0, 0, 0, 0, 3, 1), 0);
+        row(x, 58, 56, 53);
+        CHECKS.due("two are so", x.failed(0, 0, 0, 0, 2, 2), 60);
+        CHECKS.due("the least, too, is by all of them", x.failed(0, 0, 0, 0, 3, 2), NONE);
+        CHECKS.due("and so are kinds", x.failed(0, 0, 0, 0, 3, 0), 0);
+        row(x, 57, 56, 54);
         CHECKS.due("it is behind a year, not now", x.failed(0, 0, 0, 1, 1, 2), 58);
     }
 
@@ -365,6 +370,9 @@ final class Terms3Test {
         CHECKS.due("whom he stood by", x.of(1, 6), 1);
         CHECKS.due("the draw stays", x.seed(1), 77);
         CHECKS.due("the third comes again", x.man(0, 9), 2);
+        x = Checks.bench("p9.000,p9.999,p9.555,p9.444,p9.333,p9.222");
+        Checks.read(x, "p9.000,p9.999");
+        CHECKS.due("those of before stand between no longer", x.of(0, 6), 2);
     }
 
     private static void placeThatIsTaken() {
@@ -434,6 +442,10 @@ final class Terms3Test {
         text("p5.123  x", -28);
         text("p5,x", -23);
         text("p5,  x,x", -25);
+        text("p5p0", -22);
+        text("p5px", -22);
+        text("p5.123p0", -26);
+        text("p0,p0", -21);
         StringBuilder long70 = new StringBuilder();
         for (int i = 0; i < 69; i++) {
             long70.append(' ');
