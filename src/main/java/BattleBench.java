@@ -4,6 +4,7 @@ public final class BattleBench {
 
     private static final int MEN = 6, HOURS = 3, PLACES = 10, MOST_LIFE = 60;
     private static final int PLAIN = 0, HALE = 1, HURT = 2, DRUMMER = 3, RUNNER = 4, KINDS = 5;
+    private static final int LOSS_OF_PLAIN = 2, LOSS_OF_HURT = 2 * LOSS_OF_PLAIN;
     private static final int NOBODY = -1;
     private static final int LAST_YEAR = 9999, MOST_YEARS = 40, MOST_FORETOLD = 60, MOST_LEFT = 30;
     private static final int KNOWN = 8, LOWEST_31_BITS = 0x7fffffff;
@@ -739,31 +740,19 @@ public final class BattleBench {
             return wrong;
         }
 
-        /** By how much a man fails in a year, between these two (or nobody). */
+        /** By how much a man fails in a year, between these two (each a set of one or of nobody). */
         int lossOf(int man, int year, int before, int after) {
             switch (kinds[man]) {
                 case HALE: return lossOfHale(year);
-                case HURT: return lossOfHurt();
-                case DRUMMER: return lossOfHale(year) + (before == NOBODY || after == NOBODY ? 1 : 0);
-                case RUNNER: return Math.max(0, lossOfHurt() - comrades(man, before) - comrades(man, after));
-                case PLAIN: default: return lossOfPlain();
+                case HURT: return LOSS_OF_HURT;
+                case DRUMMER: return lossOfHale(year) + (before == 0 || after == 0 ? 1 : 0);
+                case RUNNER: return Math.max(0, LOSS_OF_HURT - Integer.bitCount(stoodBy[man] & (before | after)));
+                case PLAIN: default: return LOSS_OF_PLAIN;
             }
         }
 
-        private int lossOfPlain() {
-            return 2;
-        }
-
         private int lossOfHale(int year) {
-            return year % 2 == 0 ? lossOfPlain() : 0;
-        }
-
-        private int lossOfHurt() {
-            return 2 * lossOfPlain();
-        }
-
-        private int comrades(int man, int other) {
-            return other != NOBODY && holds(stoodBy[man], other) ? 1 : 0;
+            return year % 2 == 0 ? LOSS_OF_PLAIN : 0;
         }
     }
 
@@ -833,15 +822,12 @@ public final class BattleBench {
             if (k == NONE) {
                 return 0;
             }
-            return setOf(beside(k - 1)) | setOf(beside(k + 1));
+            return setOn(k - 1) | setOn(k + 1);
         }
 
-        private int beside(int k) {
-            return within(k, 0, seated - 1) ? seats[k] : NOBODY;
-        }
-
-        private static int setOf(int man) {
-            return man == NOBODY ? 0 : 1 << man;
+        /** Who sits on a seat, as a set: empty beyond the ends. */
+        private int setOn(int k) {
+            return within(k, 0, seated - 1) ? 1 << seats[k] : 0;
         }
 
         int lifeOfAll() {
@@ -854,7 +840,7 @@ public final class BattleBench {
 
         int lossOf(int man, Roll roll) {
             int k = seatOf(man);
-            return k == NONE ? 0 : roll.lossOf(man, year, beside(k - 1), beside(k + 1));
+            return k == NONE ? 0 : roll.lossOf(man, year, setOn(k - 1), setOn(k + 1));
         }
 
         boolean hasPairAt(int k) {
@@ -879,17 +865,17 @@ public final class BattleBench {
         void passYear(Roll roll) {
             int last = seated - 1;
             int left = 0;
-            int before = NOBODY;
+            int before = 0;
             // Those who are left close up behind the one looked at, whose own neighbours sit as they did.
             for (int k = 0; k <= last; k++) {
                 int man = seats[k];
-                int after = k < last ? seats[k + 1] : NOBODY;
+                int after = k < last ? 1 << seats[k + 1] : 0;
                 lives[man] = Math.max(0, lives[man] - roll.lossOf(man, year, before, after));
                 if (lives[man] > 0) {
                     seats[left] = man;
                     left++;
                 }
-                before = man;
+                before = 1 << man;
             }
             seated = left;
             year++;

@@ -1,3 +1,6 @@
+import java.lang.reflect.Field;
+import java.lang.reflect.Method;
+import java.lang.reflect.Modifier;
 import java.nio.file.Files;
 import java.nio.file.Path;
 import java.util.List;
@@ -27,7 +30,37 @@ final class RulesTest {
         long classes = Pattern.compile("\\bclass \\w+ ").matcher(code).results().count();
         checks.due("some twelve classes at most", classes <= 12 ? 1 : 0, 1);
         methodsAreShort(checks, Files.readAllLines(SOURCE));
+        classIsPlain(checks, BattleBench.class);
+        for (Class<?> inside : BattleBench.class.getDeclaredClasses()) {
+            int modifiers = inside.getModifiers();
+            checks.due(inside + " is static", Modifier.isStatic(modifiers) ? 1 : 0, 1);
+            checks.due(inside + " is not open", modifiers & (Modifier.PUBLIC | Modifier.PROTECTED), 0);
+            classIsPlain(checks, inside);
+        }
         checks.end();
+    }
+
+    /** Rules 3, 5 and 11: the types of fields, no static state, few fields and parameters. */
+    private static void classIsPlain(Checks checks, Class<?> one) {
+        int fields = 0;
+        for (Field field : one.getDeclaredFields()) {
+            String name = one.getName() + "." + field.getName();
+            boolean isStatic = Modifier.isStatic(field.getModifiers());
+            fields += isStatic ? 0 : 1;
+            Class<?> type = field.getType();
+            boolean isConstant = type == int.class || type == long.class || type == String.class;
+            checks.due(name + " is a constant, if static", !isStatic || isConstant ? 1 : 0, 1);
+            Class<?> core = type;
+            while (core.isArray()) {
+                core = core.getComponentType();
+            }
+            boolean isOwn = core.isPrimitive() || core == String.class || core.getName().startsWith("BattleBench");
+            checks.due(name + " is of a plain type", isOwn ? 1 : 0, 1);
+        }
+        checks.due(one + " has few fields", fields <= 20 ? 1 : 0, 1);
+        for (Method method : one.getDeclaredMethods()) {
+            checks.due(method + " takes seven at most", method.getParameterCount() <= 7 ? 1 : 0, 1);
+        }
     }
 
     /** A method begins with a line that ends in ") {" and ends at the brace of the same depth. */
